@@ -1055,7 +1055,6 @@ public final class TentPegs {
         }
 
         private void begin(int typed) {
-            draft.pitch(MOST_PEGS);
             length = Math.min(typed, text.length);
             at = 0;
             items = 0;

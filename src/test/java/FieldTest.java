@@ -17,6 +17,8 @@ public final class FieldTest {
         clear();
         readOrdinary();
         readFaults();
+        readWords();
+        readNothingBehindTheText();
         readRefusals();
         readAnew();
         readLeavesAfterFailure();
@@ -311,6 +313,34 @@ public final class FieldTest {
         reads("tent 8;wet 1; \u007f", -24);
         reads("tent 1;tent", -17);
         reads("tent 9;wet 10;wall", -28);
+    }
+
+    private static void readWords() {
+        String[] items = {"peg 0 0 0 0;", "wet 0;", "wall 0;", "odds 0 0;", "gone 0;"};
+        for (String item : items) {
+            reads("tent 8;" + item, 2);
+            for (int i = 0; i < item.indexOf(' '); i++) {
+                String other = item.substring(0, i) + "q" + item.substring(i + 1);
+                reads("tent 8;" + other, -17);
+                reads("tent 8;" + item.substring(0, i) + item.substring(i + 1), -17);
+                reads("tent 8;" + item.substring(0, i) + "z" + item.substring(i), -17);
+            }
+        }
+        for (int i = 0; i < 4; i++) {
+            reads("tent".substring(0, i) + "q" + "tent".substring(i + 1) + " 8;", -10);
+        }
+    }
+
+    /** What was typed ahead of clear is no part of THE TEXT. */
+    private static void readNothingBehindTheText() {
+        TentPegs x = new TentPegs();
+        Due.due("read", Due.read(x, "tent 8;wet 88;"), -1001);
+        Due.due("read", Due.read(x, "tent 8;we"), -17);
+        Due.due("read", Due.read(x, "tent 8;wet 8"), -22);
+        Due.due("read", Due.read(x, "tent 8;wet 8;"), 2);
+        Due.due("read", Due.read(x, "tent 8"), -16);
+        Due.due("read", Due.read(x, "tent 8;"), 1);
+        Due.due("count(2)", x.count(2), 0);
     }
 
     private static void readRefusals() {
