@@ -266,6 +266,9 @@ public final class WhatGoesEdgesTest extends Edges {
             x.tent(7);
             oddsBy(x, 6);
         }, x -> then(x.turn(21), fraction(x)));
+        answers("21: none STANDS", 0, Edges::drawAll, x -> x.turn(60));
+        answers("21: none STANDS, THE FRACTION", 1001, Edges::drawAll, x -> then(x.turn(60), fraction(x)));
+        answers("21: ODDS of one WAY alone", 0, x -> oddsBy(x, 7), x -> x.turn(0));
         answers("21: PEGS are not turned by it", 0, x -> {
             x.tent(7);
             oddsBy(x, 6);
@@ -293,6 +296,10 @@ public final class WhatGoesEdgesTest extends Edges {
         }, x -> then(x.worth(7, 30), fraction(x)));
         answers("22: all of it", 1001, x -> oddsBy(x, 7), x -> then(x.worth(7, 30), fraction(x)));
         answers("22: all of it below 0", -999, x -> oddsBy(x, 0), x -> then(x.worth(7, 18), fraction(x)));
+        answers("22: none STANDS", 1, x -> {
+            drawAll(x);
+            x.chance(0);
+        }, x -> then(x.worth(7, 60), fraction(x)));
         answers("22: no WALL is put by it", 0, x -> then(x.worth(7, 30), x.count(3)));
     }
 
@@ -337,6 +344,10 @@ public final class WhatGoesEdgesTest extends Edges {
         answers("23: the first one has the least PEG ahead", 0, Edges::zippedByEast, x -> x.setUp(2, 2, 36, 0));
         answers("23: the first one, its 1st", 2, Edges::zippedByEast, x -> x.setUp(2, 2, 36, 1));
         answers("23: the first one, its last", 3, Edges::zippedByEast, x -> x.setUp(2, 2, 36, 3));
+        answers("23: all n are driven, when none STANDS", 24, x -> {
+            zippedByEast(x);
+            drawAll(x);
+        }, x -> x.setUp(4, 2, 36, NONE));
         answers("23: all n are driven, those GONE too", 24, x -> {
             zippedByEast(x);
             x.stand(0, false);
