@@ -131,7 +131,7 @@ abstract class Edges {
             Due.due(then + ", of(" + k + ", 3)", x.of(k, 3), y.of(k, 3));
             Due.due(then + ", of(" + k + ", 5)", x.of(k, 5), y.of(k, 5));
         }
-        while (y.count(4) > 0) {
+        for (int left = y.count(4); left > 0; left--) {
             Due.due(then + ", undo()", x.undo(), y.undo());
             Due.due(then + ", undone", x.digest(), y.digest());
         }
@@ -187,7 +187,7 @@ abstract class Edges {
     }
 
     static void fill(TentPegs x) {
-        while (x.count(5) < 150) {
+        for (int bytes = x.count(5); bytes < 150; bytes++) {
             x.type(' ');
         }
     }

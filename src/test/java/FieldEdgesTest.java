@@ -348,6 +348,15 @@ public final class FieldEdgesTest extends Edges {
         refused("ODDS too large", "tent 8;odds 7 21;", 1);
         refused("PEG too large", "tent 8;gone 8;", 1);
         refused("PEG too large for this tent", "tent 2;gone 2;", 1);
+        refused("PEG far too large", "tent 8;peg 99 0 0 0;", 1);
+        refused("KIND far too large", "tent 8;peg 0 99 0 0;", 1);
+        refused("DEPTH far too large", "tent 8;peg 0 0 99 0;", 1);
+        refused("GROUND far too large", "tent 8;peg 0 0 0 99;", 1);
+        refused("WET far too large", "tent 8;wet 99;", 1);
+        refused("WAY far too large", "tent 8;wall 99;", 1);
+        refused("WAY far too large", "tent 8;odds 99 1;", 1);
+        refused("ODDS far too large", "tent 8;odds 7 99;", 1);
+        refused("PEG far too large", "tent 8;gone 99;", 1);
         refused("a PEG that is GONE", "tent 8;gone 7;gone 7;", 2);
     }
 

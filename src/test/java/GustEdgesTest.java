@@ -211,7 +211,7 @@ public final class GustEdgesTest extends Edges {
     }
 
     private static void undoAll(TentPegs x) {
-        while (x.count(4) > 0) {
+        for (int left = x.count(4); left > 0; left--) {
             x.undo();
         }
     }

@@ -5,6 +5,7 @@ import java.lang.management.ManagementFactory;
 public final class RoomTest {
     private static final ThreadMXBean THREADS = (ThreadMXBean) ManagementFactory.getThreadMXBean();
     private static final int ROUNDS = 512, OBJECTS = 1000;
+    private static final String ITEMS = "tent 8;wet 1;";
 
     public static void main(String[] args) {
         TentPegs x = new TentPegs();
@@ -29,8 +30,8 @@ public final class RoomTest {
 
     private static void callAll(TentPegs x, int round) {
         x.clear();
-        for (String item = "tent 8;wet 1;"; x.count(5) < item.length();) {
-            x.type(item.charAt(x.count(5)));
+        for (int i = 0; i < ITEMS.length(); i++) {
+            x.type(ITEMS.charAt(i));
         }
         x.read();
         x.tent(8);

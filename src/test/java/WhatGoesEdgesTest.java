@@ -103,9 +103,19 @@ public final class WhatGoesEdgesTest extends Edges {
             x.peg(6, 0, 1, 9);
             x.peg(2, 0, 1, 9);
         }, x -> x.bears(NONE));
+        answers("17: LEAST is by no WAY behind 7, that no WALL shelters", 1, WhatGoesEdgesTest::sheltered, x -> x.bears(NONE));
+        answers("17: BEARS by the LEAST then", 11, WhatGoesEdgesTest::sheltered, x -> x.bears(1));
+        answers("18: LEAST is by no WAY behind 7, that no WALL shelters", 17, WhatGoesEdgesTest::sheltered,
+            x -> x.twofold(1, NONE));
         answers("17: LEAST when all bear 60", 0, x -> strong(x, 8), x -> x.bears(NONE));
         answers("17: LEAST when none STANDS", 0, Edges::drawAll, x -> x.bears(NONE));
         asks("17: LEAST changes nothing", 3, Edges::muchTold, x -> x.bears(NONE));
+    }
+
+    /** The weak one is behind a wall: by 0 it bears 21 (31 when doubled), by 1 and 7 11 (17). */
+    private static void sheltered(TentPegs x) {
+        weakAndStrong(x);
+        x.wall(0, true);
     }
 
     private static void twofold() {
@@ -473,22 +483,27 @@ public final class WhatGoesEdgesTest extends Edges {
         answers("26: none STANDS", 0, Edges::drawAll, x -> x.pence(0, 60, 20));
     }
 
-    /** What is asked answers the same whatever was asked ahead of it. */
+    private static final String[] ASKED_NAMES = {"first", "lost", "bears", "bears, LEAST", "twofold", "strokes", "chance",
+        "turn", "worth", "setUp", "setUp, the i-th", "morning", "morning, the first", "lent", "pence", "night", "wake",
+        "of, HOLDS", "of, WAY", "pull", "gust"};
+
+    private static final Call[] ASKED_CALLS = {
+        x -> x.first(3, 40, NONE), x -> x.lost(2, 3, 30), x -> x.bears(3), x -> x.bears(NONE), x -> x.twofold(2, 0),
+        x -> x.strokes(3, 21, NONE), x -> x.chance(20) + fraction(x), x -> x.turn(20) + fraction(x),
+        x -> x.worth(4, 20) + fraction(x), x -> x.setUp(2, 3, 21, NONE), x -> x.setUp(2, 3, 14, 4),
+        x -> x.morning(4, 0), x -> x.morning(8, 1), x -> x.lent(3, 21, 2), x -> x.pence(3, 21, 3),
+        x -> x.night(60, 60, 3, 1), x -> x.wake(60, 60, 3), x -> x.of(0, 3), x -> x.of(2, 5), x -> x.pull(2, 3, 40),
+        x -> x.gust(3, 40)};
+
+    /** What is asked answers the same whatever was asked ahead of it; a gust comes last alone. */
     private static void oneBehindAnother() {
-        Call[] asked = {
-            x -> x.first(3, 40, NONE), x -> x.lost(2, 3, 30), x -> x.bears(3), x -> x.bears(NONE), x -> x.twofold(2, 0),
-            x -> x.strokes(3, 21, NONE), x -> x.chance(20) + fraction(x), x -> x.turn(20) + fraction(x),
-            x -> x.worth(4, 20) + fraction(x), x -> x.setUp(2, 3, 21, NONE), x -> x.setUp(2, 3, 14, 4),
-            x -> x.morning(4, 0), x -> x.morning(8, 1), x -> x.lent(3, 21, 2), x -> x.pence(3, 21, 3),
-            x -> x.night(60, 60, 3, 1), x -> x.wake(60, 60, 3), x -> x.of(0, 3), x -> x.of(2, 5), x -> x.pull(2, 3, 40),
-            x -> x.gust(3, 40)};
-        for (int a = 0; a < asked.length; a++) {
-            for (int b = 0; b < asked.length - 1; b++) {
-                Call last = asked[a];
-                Call ahead = asked[b];
+        for (int a = 0; a < ASKED_CALLS.length; a++) {
+            for (int b = 0; b < ASKED_CALLS.length - 1; b++) {
+                Call last = ASKED_CALLS[a];
+                Call ahead = ASKED_CALLS[b];
                 TentPegs fresh = new TentPegs();
                 muchTold(fresh);
-                answers("what is asked changes nothing: " + b + ", then " + a, last.on(fresh),
+                answers("changes nothing: " + ASKED_NAMES[b] + " ahead of: " + ASKED_NAMES[a], last.on(fresh),
                     Edges::muchTold, x -> then(ahead.on(x), last.on(x)));
             }
         }

@@ -100,7 +100,7 @@ public final class WhatThereIsEdgesTest extends Edges {
             x.tent(8);
         }, x -> {
             x.from(1);
-            while (x.count(4) > 0) {
+            for (int left = x.count(4); left > 0; left--) {
                 x.undo();
             }
             return x.count(1);
@@ -281,23 +281,44 @@ public final class WhatThereIsEdgesTest extends Edges {
     }
 
     /** Whether the digest is another one behind a change, and the same one behind what it does not tell. */
-    private static void shows(String sentence, int want, Told change) {
-        answers("34: " + sentence, want, Edges::muchTold, x -> {
+    private static void shows(String sentence, int want, Told told, Told change) {
+        answers("34: " + sentence, want, told, x -> {
             long before = x.digest();
             change.on(x);
             return x.digest() == before ? 0 : 1;
         });
     }
 
+    private static void shows(String sentence, Told change) {
+        shows(sentence, 1, Edges::muchTold, change);
+    }
+
+    private static void hides(String sentence, Told told, Told change) {
+        shows(sentence, 0, told, change);
+    }
+
     private static void digestOf() {
-        shows("KIND of the last PEG", 1, x -> x.peg(4, 5, 5, 4));
-        shows("DEPTH of the last PEG", 1, x -> x.peg(4, 0, 4, 4));
-        shows("GROUND of the last PEG", 1, x -> x.peg(4, 0, 5, 5));
-        shows("ODDS of the last WAY", 1, x -> x.odds(7, 2));
-        shows("how many may be undone", 1, x -> x.gust(0, 0));
-        shows("a byte of THE TEXT", 1, x -> x.type(0));
-        shows("THE FRACTION", 1, x -> x.chance(0));
-        shows("STATUS is not in it", 0, x -> x.tent(1));
-        shows("IMAGES are not in it", 0, x -> x.image(0));
+        shows("KIND of the last PEG", x -> x.peg(4, 5, 5, 4));
+        shows("DEPTH of the last PEG", x -> x.peg(4, 0, 4, 4));
+        shows("GROUND of the last PEG", x -> x.peg(4, 0, 5, 5));
+        shows("ODDS of the last WAY", x -> x.odds(7, 2));
+        shows("how many may be undone", x -> x.gust(0, 0));
+        shows("a byte of THE TEXT", x -> x.type(0));
+        shows("THE FRACTION", x -> x.chance(0));
+        hides("BAD of STATUS is not in it", Edges::muchTold, x -> x.tent(1));
+        hides("NO of STATUS is not in it", x -> { }, x -> x.undo());
+        hides("FULL of STATUS is not in it", Edges::fill, x -> x.type(' '));
+        for (int image = 0; image <= 1; image++) {
+            int i = image;
+            hides("IMAGES are not in it: the first kept as " + i, x -> { }, x -> x.image(i));
+            hides("IMAGES are not in it: another kept as " + i, WhatThereIsEdgesTest::muchBehindImages, x -> x.image(i));
+        }
+    }
+
+    private static void muchBehindImages(TentPegs x) {
+        x.image(0);
+        x.image(1);
+        x.tent(5);
+        muchOfAll(x);
     }
 }
