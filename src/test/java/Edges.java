@@ -6,8 +6,18 @@ abstract class Edges {
     static final int NONE = -1, BAD = -2, NO = -3, FULL = -4, SHORT = -5, ASKED = -10;
     static final int LOW = Integer.MIN_VALUE, HIGH = Integer.MAX_VALUE;
 
+    static final String TEXT = "tent 4;wet 2;gone 3;";
+
     private static final int BADS = 0, NOES = 1, FULLS = 2;
     private static final Set<String> NAMES = new HashSet<>();
+
+    /** Each has objects of its own, as one look might hide what the next one would show; the reasons come first. */
+    private static final Call[] LOOKS = {
+        x -> x.status(BADS), x -> x.status(NOES), x -> x.status(FULLS), Edges::field, Edges::allUndone, Edges::wasRead,
+        x -> wasKept(x, 0), x -> wasKept(x, 1), x -> x.clear()};
+    private static final String[] LOOKS_AT = {
+        "status(0)", "status(1)", "status(2)", "the field", "the field, undone", "what is read",
+        "image 0", "image 1", "clear()"};
 
     interface Told {
         void on(TentPegs x);
@@ -34,25 +44,21 @@ abstract class Edges {
     /** The call answers so, and nothing at all is changed by it. */
     static void asks(String sentence, long want, Told told, Call call) {
         begin(sentence);
-        TentPegs x = behind(told);
-        TentPegs y = behind(told);
-        Due.due(sentence, call.on(x), want);
-        for (int what = BADS; what <= FULLS; what++) {
-            Due.due(sentence + ", then status(" + what + ")", x.status(what), y.status(what));
-        }
-        goOnAlike(sentence, x, y);
+        Due.due(sentence, call.on(behind(told)), want);
+        changesAtMost(sentence, NONE, told, call::on);
     }
 
     /** The call answers so, counts as refused for that reason and no other, and changes nothing else. */
     private static void refuses(String sentence, int reason, long want, Told told, Call call) {
         begin(sentence);
-        TentPegs x = behind(told);
-        TentPegs y = behind(told);
-        Due.due(sentence, call.on(x), want);
-        for (int what = BADS; what <= FULLS; what++) {
-            Due.due(sentence + ", then status(" + what + ")", x.status(what), y.status(what) + (what == reason ? 1 : 0));
-        }
-        goOnAlike(sentence, x, y);
+        Due.due(sentence, call.on(behind(told)), want);
+        changesAtMost(sentence, reason, told, call::on);
+    }
+
+    /** Calls by which all comes back to what it was leave nothing else changed. */
+    static void comesBack(String sentence, Told told, Told thereAndBack) {
+        begin(sentence);
+        changesAtMost(sentence, NONE, told, thereAndBack);
     }
 
     static void bad(String sentence, long want, Told told, Call call) {
@@ -112,30 +118,63 @@ abstract class Edges {
         return x;
     }
 
-    /** All that is kept is told and asked for: the same of both. */
-    private static void goOnAlike(String sentence, TentPegs x, TentPegs y) {
-        String then = sentence + ", then ";
-        alike(then + "what is", x, y);
-        Due.due(then + "read()", x.read(), y.read());
-        alike(then + "what was read", x, y);
-        for (int i = 0; i < 2; i++) {
-            Due.due(then + "from(" + i + ")", x.from(i), y.from(i));
-            alike(then + "image " + i, x, y);
+    /** Nothing but how often was refused for that reason; none: not that either. */
+    private static void changesAtMost(String sentence, int reason, Told told, Told calls) {
+        for (int i = 0; i < LOOKS.length; i++) {
+            TentPegs x = behindMore(told);
+            TentPegs y = behindMore(told);
+            calls.on(x);
+            Due.due(sentence + ", then " + LOOKS_AT[i], LOOKS[i].on(x), LOOKS[i].on(y) + (i == reason ? 1 : 0));
         }
-        Due.due(then + "clear()", x.clear(), y.clear());
     }
 
-    private static void alike(String then, TentPegs x, TentPegs y) {
-        Due.due(then, x.digest(), y.digest());
-        for (int k = 0; k < y.count(0); k++) {
-            Due.due(then + ", of(" + k + ", 3)", x.of(k, 3), y.of(k, 3));
-            Due.due(then + ", of(" + k + ", 5)", x.of(k, 5), y.of(k, 5));
+    /** Ahead of what is told stands something that a call might change: each of STATUS, of pegs, of odds. */
+    private static TentPegs behindMore(Told told) {
+        TentPegs x = new TentPegs();
+        x.tent(1);
+        x.undo();
+        x.undo();
+        fill(x);
+        for (int i = 0; i < 3; i++) {
+            x.type('x');
         }
-        for (int left = y.count(4); left > 0; left--) {
-            Due.due(then + ", undo()", x.undo(), y.undo());
-            Due.due(then + ", undone", x.digest(), y.digest());
+        x.clear();
+        x.peg(0, 3, 8, 7);
+        x.peg(7, 4, 7, 6);
+        x.wet(5);
+        x.odds(0, 3);
+        x.odds(7, 5);
+        x.worth(2, 20);
+        told.on(x);
+        return x;
+    }
+
+    private static long field(TentPegs x) {
+        long h = x.digest();
+        for (int k = 0; k < x.count(0); k++) {
+            h = 31 * h + x.of(k, 3);
+            h = 31 * h + x.of(k, 5);
         }
-        Due.due(then + ", undo()", x.undo(), y.undo());
+        return h;
+    }
+
+    private static long allUndone(TentPegs x) {
+        long h = field(x);
+        for (int left = x.count(4); left > 0; left--) {
+            h = 31 * h + x.undo();
+            h = 31 * h + field(x);
+        }
+        return h;
+    }
+
+    private static long wasRead(TentPegs x) {
+        long h = x.read();
+        return 31 * h + allUndone(x);
+    }
+
+    private static long wasKept(TentPegs x, int image) {
+        long h = x.from(image);
+        return 31 * h + allUndone(x);
     }
 
     /** Something of all that there is; pegs 0 to 3 stand, 4 is gone. */
@@ -148,17 +187,45 @@ abstract class Edges {
         x.peg(0, 5, 7, 6);
         x.peg(1, 4, 9, 8);
         x.peg(3, 3, 6, 7);
+        x.peg(4, 2, 5, 4);
         x.wet(3);
         x.wall(2, true);
         x.odds(0, 4);
         x.odds(6, 0);
+        x.tent(1);
+        x.wall(2, true);
         x.stand(4, false);
         x.image(0);
         x.gust(1, 4);
         x.worth(4, 30);
-        x.tent(1);
+        type(x, TEXT);
+    }
+
+    /** Much told, a full text, behind it a field that was not there before, and calls refused by each reason. */
+    static void allTold(TentPegs x) {
+        muchTold(x);
+        fill(x);
+        x.stand(3, false);
+        beRefused(x);
+    }
+
+    /** An image is as the field is, the other one is not. */
+    static void allTold(TentPegs x, int image) {
+        allTold(x);
+        x.image(image);
+        x.clear();
+        x.worth(4, 30);
+        type(x, TEXT);
+        fill(x);
+        beRefused(x);
+    }
+
+    /** The text must be full. */
+    private static void beRefused(TentPegs x) {
+        x.wet(10);
         x.wall(2, true);
-        type(x, "tent 4;wet 2;gone 3;");
+        x.type('x');
+        x.type('x');
     }
 
     /** The most of all that is counted. */

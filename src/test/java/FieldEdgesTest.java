@@ -6,6 +6,7 @@ public final class FieldEdgesTest extends Edges {
         tentIsAsAtFirst();
         tentWays();
         peg();
+        nothingElse();
         wet();
         wall();
         odds();
@@ -116,6 +117,25 @@ public final class FieldEdgesTest extends Edges {
         answers("3: one that is GONE stays so", 0, x -> x.stand(7, false), x -> x.peg(7, 1, 2, 3) + x.of(7, 4));
     }
 
+    /** What a call tells is told back as it was; from(0) goes back where it can not be. */
+    private static void nothingElse() {
+        comesBack("2: nothing else", x -> allTold(x, 0), x -> then(x.tent(3), x.from(0)));
+        comesBack("3: nothing else", Edges::allTold, x -> then(x.peg(1, 0, 1, 1), x.peg(1, 4, 9, 8)));
+        comesBack("3: nothing else, of one that is GONE", Edges::allTold, x -> then(x.peg(4, 0, 1, 1), x.peg(4, 2, 5, 4)));
+        comesBack("4: nothing else", Edges::allTold, x -> then(x.wet(9), x.wet(3)));
+        comesBack("5: nothing else, one more", Edges::allTold, x -> then(x.wall(7, true), x.wall(7, false)));
+        comesBack("5: nothing else, one less", Edges::allTold, x -> then(x.wall(2, false), x.wall(2, true)));
+        comesBack("6: nothing else", Edges::allTold, x -> then(x.odds(6, 20), x.odds(6, 0)));
+        comesBack("7, 8: nothing else", Edges::allTold, x -> {
+            x.clear();
+            x.type('a');
+            x.clear();
+            type(x, TEXT);
+            fill(x);
+        });
+        comesBack("9: nothing else", x -> allTold(x, 0), x -> then(x.read(), x.from(0)));
+    }
+
     private static void wet() {
         range("4: WET", 0, 9, BAD, (x, n) -> x.wet(n));
         answers("4: what it was, 0", 0, x -> x.wet(9));
@@ -166,6 +186,10 @@ public final class FieldEdgesTest extends Edges {
             fill(x);
             x.type(0);
         }, x -> x.type(127));
+        full("7: FULL: 150, much told", x -> {
+            muchTold(x);
+            fill(x);
+        }, x -> x.type('x'));
         bad("7: BAD is ahead of FULL, 128", BAD, Edges::fill, x -> x.type(128));
         bad("7: BAD is ahead of FULL, -1", BAD, Edges::fill, x -> x.type(-1));
     }
@@ -405,6 +429,11 @@ public final class FieldEdgesTest extends Edges {
         anew("in their order, the last holds", "tent 8;wet 1;wet 9;", 9, x -> x.count(2));
         anew("a PEG told when GONE", "tent 8;gone 7;peg 7 5 9 8;", 5980,
             x -> 1000 * x.of(7, 0) + 100 * x.of(7, 1) + 10 * x.of(7, 2) + x.of(7, 4));
+        for (int k = 0; k < 8; k++) {
+            int peg = k;
+            anew("KIND, DEPTH, GROUND of PEG " + peg, "tent 8;peg " + peg + " 4 9 8;", 498,
+                x -> 100 * x.of(peg, 0) + 10 * x.of(peg, 1) + x.of(peg, 2));
+        }
         anew("a read of less behind one of more, WALLS", "tent 8;wall 7;", 0, x -> {
             x.clear();
             type(x, "tent 8;");

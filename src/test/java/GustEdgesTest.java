@@ -9,6 +9,7 @@ public final class GustEdgesTest extends Edges {
         undo();
         undoTen();
         undoLeaves();
+        nothingElse();
         of();
         kinds();
         zipped();
@@ -208,6 +209,17 @@ public final class GustEdgesTest extends Edges {
         answers("12: a GUST refused as NO is none", 8, x -> x.gust(0, 60),
             x -> then(x.gust(0, 60), then(x.undo(), x.count(1))));
         no("12: a PEG refused as NO is none", x -> x.stand(0, true), x -> x.undo());
+    }
+
+    private static void nothingElse() {
+        comesBack("10, 12: nothing else", Edges::allTold, x -> then(x.gust(0, 60), x.undo()));
+        comesBack("10, 12: nothing else, by one that takes none", Edges::allTold, x -> then(x.gust(7, 0), x.undo()));
+        comesBack("11, 12: nothing else, drawn", Edges::allTold, x -> then(x.stand(0, false), x.undo()));
+        comesBack("11, 12: nothing else, put back", Edges::allTold, x -> then(x.stand(4, true), x.undo()));
+        no("12: none may be, much told", x -> {
+            allTold(x);
+            undoAll(x);
+        }, x -> x.undo());
     }
 
     private static void undoAll(TentPegs x) {

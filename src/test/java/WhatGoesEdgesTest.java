@@ -236,6 +236,8 @@ public final class WhatGoesEdgesTest extends Edges {
             x.odds(0, 0);
         }, x -> then(x.chance(11), fraction(x)));
         answers("20: none STANDS", 1001, Edges::drawAll, x -> then(x.chance(60), fraction(x)));
+        comesBack("20, 22: nothing but THE FRACTION", Edges::allTold, x -> then(x.chance(20), x.worth(4, 30)));
+        comesBack("21, 22: nothing but THE FRACTION", Edges::allTold, x -> then(x.turn(20), x.worth(4, 30)));
         answers("20: STRENGTH 0", 1001, x -> x.peg(0, 0, 0, 0), x -> then(x.chance(0), fraction(x)));
     }
 

@@ -40,6 +40,11 @@ public final class WhatThereIsEdgesTest extends Edges {
         answers("31: from 0", 1, x -> x.image(0), x -> x.from(0));
         answers("31: from 1", 1, x -> x.image(1), x -> x.from(1));
         asks("30: kept once more as it was, nothing changes", 1, x -> x.image(1), x -> x.image(1));
+        for (int image = 0; image <= 1; image++) {
+            int i = image;
+            comesBack("30: nothing else, " + i, x -> allTold(x, i), x -> x.image(i));
+            comesBack("31: nothing else, " + i, x -> allTold(x, i), x -> then(x.from(1 - i), x.from(i)));
+        }
     }
 
     /** An image is kept, something changes: from it on all is as it was. */
@@ -166,6 +171,15 @@ public final class WhatThereIsEdgesTest extends Edges {
             x.wet(9);
             x.image(0);
         }, x -> then(x.from(1), x.count(2)));
+        answers("30: the other one is not kept anew, 0", 0, x -> {
+            x.image(0);
+            x.wet(9);
+            x.image(1);
+        }, x -> then(x.from(0), x.count(2)));
+        answers("30: what may be undone stays", 8, x -> {
+            changes(x, 2);
+            x.image(0);
+        }, x -> then(x.undo(), then(x.undo(), x.count(1))));
         answers("31: it goes on, and the IMAGE stays", 0, x -> {
             x.image(0);
             x.from(0);
@@ -259,6 +273,9 @@ public final class WhatThereIsEdgesTest extends Edges {
         answers("34: none STANDS", 0, Edges::drawAll, x -> x.digest() - worked(x, 1, 1, 1, 1, 1, 1, 1, 1));
         answers("34: THE FRACTION below 0", 0, x -> x.worth(0, 18), x -> x.digest() - worked(x, 1, 1, 1, 1, 1, 1, 1, 1));
         asks("34: nothing changes", -4328522070395777788L, x -> { }, x -> x.digest());
+        comesBack("34: nothing changes, all told", Edges::allTold, x -> x.digest());
+        answers("34: what may be undone stays", 8, x -> changes(x, 2),
+            x -> then(x.digest(), then(x.undo(), then(x.undo(), x.count(1)))));
     }
 
     /** An object is used for at most 512 calls: the last of them answers as the first ones do. */
