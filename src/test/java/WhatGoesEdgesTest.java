@@ -107,6 +107,10 @@ public final class WhatGoesEdgesTest extends Edges {
         answers("17: BEARS by the LEAST then", 11, WhatGoesEdgesTest::sheltered, x -> x.bears(1));
         answers("18: LEAST is by no WAY behind 7, that no WALL shelters", 17, WhatGoesEdgesTest::sheltered,
             x -> x.twofold(1, NONE));
+        answers("17: LEAST is by no WAY ahead of 0, that no WALL shelters", 0, WhatGoesEdgesTest::shelteredLast,
+            x -> x.bears(NONE));
+        answers("18: LEAST is by no WAY ahead of 0, that no WALL shelters", 17, WhatGoesEdgesTest::shelteredLast,
+            x -> x.twofold(1, NONE));
         answers("17: LEAST when all bear 60", 0, x -> strong(x, 8), x -> x.bears(NONE));
         answers("17: LEAST when none STANDS", 0, Edges::drawAll, x -> x.bears(NONE));
         asks("17: LEAST changes nothing", 3, Edges::muchTold, x -> x.bears(NONE));
@@ -116,6 +120,13 @@ public final class WhatGoesEdgesTest extends Edges {
     private static void sheltered(TentPegs x) {
         weakAndStrong(x);
         x.wall(0, true);
+    }
+
+    /** The weak one is the last, behind a wall: by 7 it bears 21 (31 when doubled), by 0 and 6 11 (17). */
+    private static void shelteredLast(TentPegs x) {
+        strong(x, 8);
+        x.peg(7, 0, 2, 5);
+        x.wall(7, true);
     }
 
     private static void twofold() {
